@@ -348,7 +348,6 @@ public final class ReversiSolver {
         frameOpp[depth] = opp;
         frameUntried[depth] = moves;
         framePassDue[depth] = stuck && !over;
-        frameTrying[depth] = NONE;
         frameBestMove[depth] = NONE;
         frameBest[depth] = over ? sizeOf(own) - sizeOf(opp) : BELOW_ALL_VALUES;
     }
