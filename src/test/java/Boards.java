@@ -1,25 +1,31 @@
+import java.util.ArrayList;
+import java.util.List;
+
 /** Lays out boards written as text, and reads a whole state back as text. */
 final class Boards {
     static final int BLACK = 1;
     static final int WHITE = 2;
 
-    /** Numbers outside 0..63, with those that a careless mask or cast would bring back inside. */
-    static final int[] NO_SQUARES = {
-        -1, -2, -8, -63, -64, -65, -256, 64, 65, 71, 72, 91, 100, 127, 128, 255, 256, 283, 65536, 65563,
-        1 << 30, Integer.MIN_VALUE, Integer.MIN_VALUE + 27, Integer.MAX_VALUE, Integer.MAX_VALUE - 1
-    };
-
-    /** Numbers that are neither BLACK nor WHITE nor EMPTY. */
-    static final int[] NO_CONTENTS = {
-        -1, -2, -3, 3, 4, 5, 64, 255, 256, 257, 258, 65537, Integer.MIN_VALUE, Integer.MIN_VALUE + 1, Integer.MAX_VALUE
-    };
-
     static final String START = "........ ........ ........ ...WB... ...BW... ........ ........ ........";
     static final String CLEAR = "........ ........ ........ ........ ........ ........ ........ ........";
+    static final String ALL_BLACK = CLEAR.replace('.', 'B');
+    static final String ALL_WHITE = CLEAR.replace('.', 'W');
+    static final String HALVES = "BBBBBBBB BBBBBBBB BBBBBBBB BBBBBBBB WWWWWWWW WWWWWWWW WWWWWWWW WWWWWWWW";
 
-    /** Two empty squares; with Black to move the value is 64 and the line is 0, PASS, 63. */
+    /** Two empty squares; with Black to move the value is 64 and the line is 0, PASS, 63. White must pass. */
     static final String TWO_EMPTY = ".WBBBBBB BBBBBBBB BBBBBBBB BBBBBBBB BBBBBBBB BBBBBBBB BBBBBBBB BBBBBBW.";
     static final String TWO_EMPTY_SOLUTION = " held 64: 0 64 63";
+
+    /** Two empty squares and nobody can move: 62 black discs. */
+    static final String OVER = TWO_EMPTY.replace('W', 'B');
+    static final String FULL = TWO_EMPTY.replace('.', 'W');
+
+    /** Six empty squares and the longest line there is, with Black to move: every other entry is a pass. */
+    static final String TWELVE_ENTRIES = "BBBBBBBB BBBBBBBB BBBBB.BB .BBBBBBW BBBBBBBB BBBBB.BB BBB.BBBB BBBB.BB.";
+    static final String TWELVE_ENTRIES_SOLUTION = " held 4: 64 63 64 21 64 60 64 24 64 45 64 51";
+
+    /** Six empty squares, and both sides can move. */
+    static final String SIX_EMPTY = "WWBBWBBB WB.BWWW. WWBBWWBB BBW.WWW. BWBWWW.W BWBWBBWB WWWB.WWW BWBBBBWB";
 
     static final String NOTHING_HELD = " none held";
 
@@ -32,10 +38,43 @@ final class Boards {
         return x;
     }
 
-    static ReversiSolver solvedTwoEmpty() {
-        ReversiSolver x = laid(TWO_EMPTY, BLACK);
+    static ReversiSolver solved(String board, int side) {
+        ReversiSolver x = laid(board, side);
         x.solve();
         return x;
+    }
+
+    static ReversiSolver solvedTwoEmpty() {
+        return solved(TWO_EMPTY, BLACK);
+    }
+
+    /** Objects that hold a solution: of a move, of a pass, of an over board, of a full one, and a long one. */
+    static List<ReversiSolver> holding() {
+        List<ReversiSolver> all = new ArrayList<>();
+        for (String board : new String[] {TWO_EMPTY, OVER, FULL, HALVES, SIX_EMPTY, TWELVE_ENTRIES, otherColours(TWO_EMPTY)}) {
+            all.add(solved(board, BLACK));
+            all.add(solved(board, WHITE));
+        }
+        return all;
+    }
+
+    /** Objects that hold none: at the start, without discs, full, and with a solution that was dropped. */
+    static List<ReversiSolver> holdingNone() {
+        List<ReversiSolver> all = new ArrayList<>();
+        for (String board : new String[] {START, CLEAR, FULL, TWO_EMPTY}) {
+            all.add(laid(board, BLACK));
+            all.add(laid(board, WHITE));
+        }
+        ReversiSolver dropped = solved(TWELVE_ENTRIES, BLACK);
+        dropped.pass();
+        all.add(dropped);
+        return all;
+    }
+
+    static List<ReversiSolver> everyState() {
+        List<ReversiSolver> all = holding();
+        all.addAll(holdingNone());
+        return all;
     }
 
     static void lay(ReversiSolver x, String board, int side) {
@@ -76,5 +115,13 @@ final class Boards {
         StringBuilder text = new StringBuilder(board);
         text.setCharAt(sq + sq / 8, content);
         return text.toString();
+    }
+
+    static char contentOf(String board, int sq) {
+        return board.charAt(sq + sq / 8);
+    }
+
+    static String otherColours(String board) {
+        return board.replace('W', 'x').replace('B', 'W').replace('x', 'B');
     }
 }

@@ -1,38 +1,57 @@
+import java.util.List;
+
 /** Promise 6: getSquare answers a square's content, -1 off the board, and changes nothing. */
 public final class Promise06GetSquareTest {
     private static final Checks checks = new Checks();
 
     public static void main(String[] args) {
-        Numbers numbers = new Numbers(6);
-        for (int round = 0; round < 100; round++) {
-            everySquare(numbers.board(numbers.below(65), 50));
-        }
-        offTheBoard(new ReversiSolver());
-        offTheBoard(Boards.laid(Boards.TWO_EMPTY.replace('.', 'W'), 2));
-        changesNothing();
+        checks.holds("getSquare(int sq) answers the content of square sq (EMPTY, BLACK or WHITE) when sq is in 0..63.",
+            Promise06GetSquareTest::everySquare);
+        checks.holds("For any other sq it answers -1.", Promise06GetSquareTest::offTheBoard);
+        checks.holds("It changes nothing.", Promise06GetSquareTest::changesNothing);
         checks.finish();
     }
 
-    private static void everySquare(String board) {
-        ReversiSolver x = Boards.laid(board, 1);
-        String squares = board.replace(" ", "");
-        for (int sq = 0; sq < 64; sq++) {
-            checks.due(board + ", getSquare(" + sq + ")", x.getSquare(sq), ".BW".indexOf(squares.charAt(sq)));
+    /** One odd square out, on boards of each content, and boards of all contents. */
+    private static void everySquare() {
+        for (String rest : new String[] {Boards.CLEAR, Boards.ALL_BLACK, Boards.ALL_WHITE}) {
+            for (int sq = 0; sq < 64; sq++) {
+                contentsOf(Boards.with(rest, sq, '.'));
+                contentsOf(Boards.with(rest, sq, 'B'));
+                contentsOf(Boards.with(rest, sq, 'W'));
+            }
+        }
+        Numbers numbers = new Numbers(6);
+        for (int round = 0; round < 100; round++) {
+            contentsOf(numbers.board(numbers.below(65), 50));
         }
     }
 
-    private static void offTheBoard(ReversiSolver x) {
-        for (int sq : Boards.NO_SQUARES) {
-            checks.due("getSquare(" + sq + ")", x.getSquare(sq), -1);
+    private static void contentsOf(String board) {
+        ReversiSolver x = Boards.laid(board, 1);
+        for (int sq = 0; sq < 64; sq++) {
+            checks.due(board + ", getSquare(" + sq + ")", x.getSquare(sq), ".BW".indexOf(Boards.contentOf(board, sq)));
+        }
+    }
+
+    private static void offTheBoard() {
+        for (ReversiSolver x : Boards.everyState()) {
+            for (int sq : Edges.outside(0, 63)) {
+                checks.due("getSquare(" + sq + ")", x.getSquare(sq), -1);
+            }
         }
     }
 
     private static void changesNothing() {
-        ReversiSolver x = Boards.solvedTwoEmpty();
-        offTheBoard(x);
-        for (int sq = 0; sq < 64; sq++) {
-            x.getSquare(sq);
+        List<ReversiSolver> all = Boards.everyState();
+        for (ReversiSolver x : all) {
+            for (int sq = 0; sq < 64; sq++) {
+                int square = sq;
+                Unchanged.by(checks, x, "getSquare(" + sq + ")", y -> y.getSquare(square), x.getSquare(sq));
+            }
         }
-        checks.due("state after getSquare", Boards.state(x), Boards.TWO_EMPTY + " side 1" + Boards.TWO_EMPTY_SOLUTION);
+        for (int sq : new int[] {-1, 64, Integer.MIN_VALUE, Integer.MAX_VALUE}) {
+            Unchanged.by(checks, all, "getSquare(" + sq + ")", x -> x.getSquare(sq), -1);
+        }
     }
 }

@@ -3,14 +3,23 @@ public final class Promise14SolveTest {
     private static final Checks checks = new Checks();
 
     public static void main(String[] args) {
-        knownSolutions();
-        limit();
-        overBoards();
-        lowestOfEqualMoves();
-        linesOfEveryLength();
-        againIsTheSame();
-        searchesLeaveNothingBehind();
-        randomBoards();
+        checks.holds("If the board has more than SOLVE_LIMIT EMPTY squares, it answers ERR_TOO_MANY",
+            Promise14SolveTest::tooMany);
+        checks.holds("and changes nothing", Promise14SolveTest::refusedChangesNothing);
+        checks.holds("A solution held from before stays held, unchanged.", Promise14SolveTest::heldFromBefore);
+        checks.holds("This works for every board with at most SOLVE_LIMIT empty squares", Promise14SolveTest::notTooMany);
+        checks.holds("it is the number of empty squares that counts, wherever they are", Promise14SolveTest::limitAnywhere);
+        checks.holds("The held solution becomes present, with value V(P) and list the PV of P",
+            Promise14SolveTest::knownSolutions);
+        checks.holds("the same for random boards, by the reference", Promise14SolveTest::randomBoards);
+        checks.holds("The board and the side to move are unchanged.", Promise14SolveTest::positionUnchanged);
+        checks.holds("The answer is OK.", Promise14SolveTest::answersOk);
+        checks.holds("over boards, where the value is the current disc difference from the view of the side to move and"
+            + " the PV is empty", Promise14SolveTest::overBoards);
+        checks.holds("full boards", Promise14SolveTest::fullBoards);
+        checks.holds("positions where the side to move must pass", Promise14SolveTest::mustPass);
+        checks.holds("Solving again on the same position gives the same held solution.", Promise14SolveTest::again);
+        checks.holds("an earlier solution does not show through a later one", Promise14SolveTest::nothingLeftBehind);
         checks.finish();
     }
 
@@ -22,99 +31,95 @@ public final class Promise14SolveTest {
         checks.due(call + ", by the reference", Reference.of(x).solution(side), want);
     }
 
-    private static void knownSolutions() {
-        solved(Boards.TWO_EMPTY, 1, Boards.TWO_EMPTY_SOLUTION);
-        solved(Boards.TWO_EMPTY, 2, " held -64: 64 0 64 63");
-        solved("BBBBBBBB BBBBBBBB BBBBBBBB BBBBBBBB BBBBBBBB BBBBBBBB BBBBBBBB BWWWWWW.", 1, " held 64: 63");
-        solved("BBBBBBBB BBBBBBBB BBBBBBBB BBBBBBBB BBBBBBBB BBBBBBBB BBBBBBBB BWWWWWW.", 2, " held -64: 64 63");
-        solved("WWBBWBBB WB.BWWW. WWBBWWBB BBW.WWW. BWBWWW.W BWBWBBWB WWWB.WWW BWBBBBWB", 1,
-            " held 6: 15 52 31 38 27 10");
-        solved("WWBBWBBB WB.BWWW. WWBBWWBB BBW.WWW. BWBWWW.W BWBWBBWB WWWB.WWW BWBBBBWB", 2,
-            " held 0: 10 31 27 52 15 38");
-    }
-
-    /** The empty squares are counted, whether or not the game is over. */
-    private static void limit() {
-        String allBlack = Boards.CLEAR.replace('.', 'B');
-        String mixed = Boards.TWO_EMPTY.replace('.', 'W');
-        for (int empties = 0; empties <= 64; empties++) {
-            limitOn(allBlack, empties);
-            limitOn(mixed, empties);
-            allBlack = empties < 64 ? Boards.with(allBlack, empties * 37 % 64, '.') : allBlack;
-            mixed = empties < 64 ? Boards.with(mixed, empties * 37 % 64, '.') : mixed;
-        }
-        limitOn(Boards.START, 60);
-    }
-
-    private static void limitOn(String board, int empties) {
+    private static void answers(String board, int want) {
         for (int side = 1; side <= 2; side++) {
-            ReversiSolver x = Boards.laid(board, side);
-            String call = board + ", side " + side + ", " + empties + " empty, solve()";
-            checks.due(call, x.solve(), empties <= 6 ? 0 : -4);
-            checks.due(call + ", state", Boards.state(x),
-                board + " side " + side + (empties <= 6 ? Reference.of(x).solution(side) : Boards.NOTHING_HELD));
+            String call = board + ", side " + side + ", solve()";
+            checks.due(call, Boards.laid(board, side).solve(), want);
         }
     }
 
-    /** Empty squares count for nobody: 62 black discs and two empty squares are worth 62, not 64. */
-    private static void overBoards() {
-        solved(Boards.TWO_EMPTY.replace('W', 'B'), 1, " held 62:");
-        solved(Boards.TWO_EMPTY.replace('W', 'B'), 2, " held -62:");
-        solved(Boards.TWO_EMPTY.replace('.', 'W'), 1, " held 56:");
-        solved(Boards.TWO_EMPTY.replace('.', 'W'), 2, " held -56:");
-        solved(Boards.CLEAR.replace('.', 'W'), 1, " held -64:");
-        solved(Boards.CLEAR.replace('.', 'W'), 2, " held 64:");
-        solved("BBBBBBBB BBBBBBBB BBBBBBBB BBBBBBBB WWWWWWWW WWWWWWWW WWWWWWWW WWWWWWWW", 1, " held 0:");
-        solved("BB.BBBBB BBBBB.BB BBBBB.BB BBBBBBBB BBBBBBBB BBBBBB.. BBBBBBBB BBB.BBBB", 2, " held -58:");
+    /** Three kinds of full board, of which so many squares are emptied, in an order that jumps about. */
+    private static String[] withEmpties(int empties) {
+        String[] boards = {Boards.ALL_BLACK, Boards.FULL, Boards.HALVES};
+        for (int n = 0; n < empties; n++) {
+            for (int kind = 0; kind < boards.length; kind++) {
+                boards[kind] = Boards.with(boards[kind], (63 + n * 37) % 64, '.');
+            }
+        }
+        return boards;
     }
 
-    /** The lowest of the best, which is neither always the lowest move nor the last that was tried. */
-    private static void lowestOfEqualMoves() {
-        solved(Boards.TWO_EMPTY, 1, " held 64: 0 64 63");
-        solved("BWBBBBBB BBBBBBBB B.BBWWBB B.WWWBB. ..BBBBBB BWWWB.BB WBBBBBBB BBWBBBBB", 1,
-            " held 20: 32 17 33 25 64 31 64 45");
-        solved(".BWWBWWB WWW.WWWB BBBBBWWW BWW.WBBB WBWWWBBW WWBWWBWW BBWWB.W. .BBBBWWW", 1,
-            " held -2: 11 56 27 53 0 64 55");
+    /** Over boards as well: one without discs is over, and has 64 empty squares. */
+    private static void tooMany() {
+        for (int empties = 7; empties <= 64; empties++) {
+            for (String board : withEmpties(empties)) {
+                answers(board, -4);
+            }
+        }
+        answers(Boards.START, -4);
+        answers(Boards.CLEAR, -4);
     }
 
-    private static void linesOfEveryLength() {
-        solved("BBBBBBBB BBBB.WBB BBBBBB.B BBBBBBBB BBB.BBBB BBBBBBBB ..BBBBBB BBBBBB.B", 1, " held 59: 12");
-        solved("BBBBBBBB BBBBBBBW BBBBBBB. B.BBBBBB BBBBBB.B BBBBBBBB BBB.BBB. BBBBBB.B", 2, " held -59: 64 23");
-        solved("BBBBBB.B BBBBBBBB BBBBBBBB BBBBBBBB B.B.WBBB ..BBBBBB BBBBBBBW BBBBBBB.", 1, " held 60: 35 64 63");
-        solved("BBBBBWBB BBBBBBBB BBBB.BBB .BBBBBBB BBBBBBBB B..B.BBB BBBBBBBB BBBBB.BB", 2,
-            " held -57: 61 20 64 44");
-        solved("WBWBBBBB BBBBBBBB BW.BB.B. B.BBB.BB BBBBWBBB BBBBBBB. BBBBBWBW BBBBBBBB", 1,
-            " held 51: 47 18 25 29 21");
-        solved("BWWBBB.B BBBWBBWB B.BBBBBB BBBWBB.B BBBBBBBB B.BB.BBB BWBWBB.B BBBBBBBB", 2,
-            " held 4: 6 41 44 64 17 64 30 64 54");
-        solved(".B.BBBBB BBBBBBBB BBBBBBBB BBBB.BWB BBB.BBBB BBBBBBBB BBB.B.BB BBBBBBBB", 1,
-            " held 26: 64 28 35 2 64 53 64 0 64 51");
-        solved("B.WWWW.B WWWWWWWW WBWWWWWW .WWWWWWW BW.WWWWW WWWWWWW. WBW.WWWW WWWWWWWB", 1,
-            " held 34: 24 64 47 64 1 64 6 64 34 64 51");
-        solved("BBBBBBBB BBBBBBBB BBBBB.BB .BBBBBBW BBBBBBBB BBBBB.BB BBB.BBBB BBBB.BB.", 1,
-            " held 4: 64 63 64 21 64 60 64 24 64 45 64 51");
+    private static void refusedChangesNothing() {
+        for (int empties = 7; empties <= 64; empties++) {
+            for (String board : withEmpties(empties)) {
+                Unchanged.by(checks, Boards.laid(board, 1), "solve()", ReversiSolver::solve, -4);
+                Unchanged.by(checks, Boards.laid(board, 2), "solve()", ReversiSolver::solve, -4);
+            }
+        }
+        Unchanged.by(checks, new ReversiSolver(), "solve()", ReversiSolver::solve, -4);
     }
 
-    private static void againIsTheSame() {
-        ReversiSolver x = Boards.solvedTwoEmpty();
-        for (int round = 0; round < 3; round++) {
-            checks.due("solve() again", x.solve(), 0);
-            checks.due("solve() again, state", Boards.state(x), Boards.TWO_EMPTY + " side 1" + Boards.TWO_EMPTY_SOLUTION);
+    /**
+     * Every call that empties a square makes the solution absent, so that no run of calls leads to a refused
+     * solve with a solution held. What is left to see: the refused call brings no old solution back.
+     */
+    private static void heldFromBefore() {
+        ReversiSolver x = Boards.solved(Boards.TWELVE_ENTRIES, 1);
+        checks.due("six empty, solution", Boards.solution(x), Boards.TWELVE_ENTRIES_SOLUTION);
+        x.setSquare(0, 0);
+        Unchanged.by(checks, x, "solve() with a seventh empty square", ReversiSolver::solve, -4);
+        checks.due("seven empty, refused solve(), solution", Boards.solution(x), Boards.NOTHING_HELD);
+        x.setSquare(0, 1);
+        checks.due("six empty again, not solved, solution", Boards.solution(x), Boards.NOTHING_HELD);
+        checks.due("six empty again, solve()", x.solve(), 0);
+        checks.due("six empty again, solution", Boards.solution(x), Boards.TWELVE_ENTRIES_SOLUTION);
+    }
+
+    private static void notTooMany() {
+        for (int empties = 0; empties <= 6; empties++) {
+            for (String board : withEmpties(empties)) {
+                answers(board, 0);
+                solved(board, 1, Reference.of(Boards.laid(board, 1)).solution(1));
+                solved(board, 2, Reference.of(Boards.laid(board, 2)).solution(2));
+            }
         }
     }
 
-    /** A long line held before must not show through a shorter one, nor through an empty one. */
-    private static void searchesLeaveNothingBehind() {
-        ReversiSolver x = Boards.laid("BBBBBBBB BBBBBBBB BBBBB.BB .BBBBBBW BBBBBBBB BBBBB.BB BBB.BBBB BBBB.BB.", 1);
-        x.solve();
-        Boards.lay(x, Boards.TWO_EMPTY, 1);
-        x.solve();
-        checks.due("after a longer line, solution", Boards.solution(x), Boards.TWO_EMPTY_SOLUTION);
-        checks.due("after a longer line, pvMove(3)", x.pvMove(3), -1);
-        Boards.lay(x, Boards.TWO_EMPTY.replace('W', 'B'), 2);
-        x.solve();
-        checks.due("after a longer line, over, solution", Boards.solution(x), " held -62:");
-        checks.due("after a longer line, over, pvMove(0)", x.pvMove(0), -1);
+    /** Six empty squares and then a seventh, with each square in turn among the six and as the seventh. */
+    private static void limitAnywhere() {
+        Numbers numbers = new Numbers(141);
+        for (int sq = 0; sq < 64; sq++) {
+            String five = numbers.board(5, 50);
+            if (Boards.contentOf(five, sq) != '.') {
+                String six = Boards.with(five, sq, '.');
+                answers(five, 0);
+                answers(six, 0);
+                for (int seventh = 0; seventh < 64; seventh++) {
+                    boolean more = Boards.contentOf(six, seventh) != '.';
+                    answers(Boards.with(six, seventh, '.'), more ? -4 : 0);
+                }
+            }
+        }
+    }
+
+    private static void knownSolutions() {
+        for (Solutions known : Solutions.OF_LENGTH) {
+            solved(known.board, known.side, known.solution);
+        }
+        solved(Boards.TWO_EMPTY, 1, Boards.TWO_EMPTY_SOLUTION);
+        solved("BBBBBBBB BBBBBBBB BBBBBBBB BBBBBBBB BBBBBBBB BBBBBBBB BBBBBBBB BWWWWWW.", 1, " held 64: 63");
+        solved(Boards.SIX_EMPTY, 2, " held 0: 10 31 27 52 15 38");
     }
 
     private static void randomBoards() {
@@ -125,5 +130,75 @@ public final class Promise14SolveTest {
             String board = numbers.board(round % 6 == 0 ? 6 : numbers.below(6), blackOf100[round % 7]);
             solved(board, side, Reference.of(Boards.laid(board, side)).solution(side));
         }
+    }
+
+    private static void positionUnchanged() {
+        for (Solutions known : Solutions.OF_LENGTH) {
+            ReversiSolver x = Boards.laid(known.board, known.side);
+            x.solve();
+            checks.due(known.board + ", solve(), board", Boards.board(x), known.board);
+            checks.due(known.board + ", solve(), sideToMove()", x.sideToMove(), known.side);
+        }
+    }
+
+    private static void answersOk() {
+        for (ReversiSolver x : Boards.holding()) {
+            checks.due(Boards.state(x) + ", solve()", x.solve(), 0);
+        }
+        for (Solutions known : Solutions.OF_LENGTH) {
+            answers(known.board, 0);
+        }
+    }
+
+    /** Empty squares count for nobody: 62 black discs and two empty squares are worth 62, not 64. */
+    private static void overBoards() {
+        solved(Boards.OVER, 1, " held 62:");
+        solved(Boards.OVER, 2, " held -62:");
+        solved("BB.BBBBB BBBBB.BB BBBBB.BB BBBBBBBB BBBBBBBB BBBBBB.. BBBBBBBB BBB.BBBB", 1, " held 58:");
+        solved("BB.BBBBB BBBBB.BB BBBBB.BB BBBBBBBB BBBBBBBB BBBBBB.. BBBBBBBB BBB.BBBB", 2, " held -58:");
+        solved("WWWWWWWW WWWWWWWW WWWWWWWW WWWWWWWW WWWWWWWW WWWWWWWW WWWWWWWW WWWWWWW.", 1, " held -63:");
+    }
+
+    private static void fullBoards() {
+        solved(Boards.FULL, 1, " held 56:");
+        solved(Boards.FULL, 2, " held -56:");
+        solved(Boards.ALL_WHITE, 1, " held -64:");
+        solved(Boards.ALL_WHITE, 2, " held 64:");
+        solved(Boards.HALVES, 1, " held 0:");
+        solved(Boards.HALVES, 2, " held 0:");
+    }
+
+    private static void mustPass() {
+        solved(Boards.TWO_EMPTY, 2, " held -64: 64 0 64 63");
+        solved(Boards.otherColours(Boards.TWO_EMPTY), 1, " held -64: 64 0 64 63");
+        solved("BBBBBBBB BBBBBBBB BBBBBBBB BBBBBBBB BBBBBBBB BBBBBBBB BBBBBBBB BWWWWWW.", 2, " held -64: 64 63");
+        solved(Boards.TWELVE_ENTRIES, 1, Boards.TWELVE_ENTRIES_SOLUTION);
+    }
+
+    /** At once, after other positions, and on another object. */
+    private static void again() {
+        ReversiSolver x = new ReversiSolver();
+        for (int round = 0; round < 3; round++) {
+            for (Solutions known : Solutions.OF_LENGTH) {
+                Boards.lay(x, known.board, known.side);
+                x.solve();
+                checks.due(known.board + ", solve(), solution", Boards.solution(x), known.solution);
+                checks.due(known.board + ", solve() again", x.solve(), 0);
+                checks.due(known.board + ", solve() again, solution", Boards.solution(x), known.solution);
+                checks.due(known.board + ", another object", Boards.solution(known.solved()), known.solution);
+            }
+        }
+    }
+
+    private static void nothingLeftBehind() {
+        ReversiSolver x = Boards.solved(Boards.TWELVE_ENTRIES, 1);
+        Boards.lay(x, Boards.TWO_EMPTY, 1);
+        x.solve();
+        checks.due("after a longer line, solution", Boards.solution(x), Boards.TWO_EMPTY_SOLUTION);
+        checks.due("after a longer line, pvMove(3)", x.pvMove(3), -1);
+        Boards.lay(x, Boards.OVER, 2);
+        x.solve();
+        checks.due("after a longer line, over, solution", Boards.solution(x), " held -62:");
+        checks.due("after a longer line, over, pvMove(0)", x.pvMove(0), -1);
     }
 }

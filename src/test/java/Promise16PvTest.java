@@ -4,90 +4,176 @@ import java.util.List;
 /** Promise 16: pvLength and pvMove read the held line, and the line can be replayed to its value. */
 public final class Promise16PvTest {
     private static final Checks checks = new Checks();
-    private static final String TWELVE_ENTRIES =
-        "BBBBBBBB BBBBBBBB BBBBB.BB .BBBBBBW BBBBBBBB BBBBB.BB BBB.BBBB BBBB.BB.";
 
     public static void main(String[] args) {
-        nothingHeld();
-        lineIs(Boards.TWO_EMPTY, 1, 0, 64, 63);
-        lineIs(Boards.TWO_EMPTY, 2, 64, 0, 64, 63);
-        lineIs(Boards.TWO_EMPTY.replace('W', 'B'), 1);
-        lineIs(Boards.TWO_EMPTY.replace('.', 'W'), 2);
-        lineIs(TWELVE_ENTRIES, 1, 64, 63, 64, 21, 64, 60, 64, 24, 64, 45, 64, 51);
-        changesNothing();
-        randomBoards();
+        checks.holds("If no solution is held, it answers -1.", Promise16PvTest::noLength);
+        checks.holds("Otherwise it answers the number of entries of the held PV, a number in 0..12.",
+            Promise16PvTest::lengths);
+        checks.holds("It answers entry i (0 = first) of the held PV, which is a square number 0..63 or PASS.",
+            Promise16PvTest::entries);
+        checks.holds("It answers -1 if no solution is held", Promise16PvTest::noMove);
+        checks.holds("or if i is outside 0..pvLength()-1 (negative i included)", Promise16PvTest::outsideTheLine);
+        checks.holds("Neither method changes anything.", Promise16PvTest::changesNothing);
+        checks.holds("Then n >= 0.", Promise16PvTest::lengthWhileHeld);
+        checks.holds("every one of these calls answers a non-negative number (OK or a flip count)",
+            () -> replayAll(Promise16PvTest::entriesAreTaken));
+        checks.holds("isGameOver() is false before each of them and true after the last",
+            () -> replayAll(Promise16PvTest::overAfterTheLast));
+        checks.holds("at the end, countDiscs(m) - countDiscs(opponent of m) equals the value read before the replay",
+            () -> replayAll(Promise16PvTest::endsAtTheValue));
+        checks.holds("When n is 0, the board was already over.", Promise16PvTest::emptyLines);
         checks.finish();
     }
 
-    private static void nothingHeld() {
-        ReversiSolver fresh = new ReversiSolver();
-        fresh.solve();
-        ReversiSolver dropped = Boards.laid(TWELVE_ENTRIES, 1);
-        dropped.solve();
-        dropped.pass();
-        for (ReversiSolver x : new ReversiSolver[] {fresh, dropped}) {
-            checks.due("nothing held, pvLength()", x.pvLength(), -1);
-            for (int i = -3; i < 20; i++) {
-                checks.due("nothing held, pvMove(" + i + ")", x.pvMove(i), -1);
-            }
+    private static void noLength() {
+        for (ReversiSolver x : Boards.holdingNone()) {
+            checks.due(Boards.board(x) + ", pvLength()", x.pvLength(), -1);
+        }
+        ReversiSolver refused = new ReversiSolver();
+        refused.solve();
+        checks.due("refused solve, pvLength()", refused.pvLength(), -1);
+    }
+
+    private static void lengths() {
+        for (int n = 0; n <= 12; n++) {
+            checks.due("a line of " + n + ", pvLength()", Solutions.OF_LENGTH[n].solved().pvLength(), n);
         }
     }
 
-    private static void lineIs(String board, int side, int... line) {
-        ReversiSolver x = Boards.laid(board, side);
-        x.solve();
-        checks.due(board + ", pvLength()", x.pvLength(), line.length);
-        for (int i = 0; i < line.length; i++) {
-            checks.due(board + ", pvMove(" + i + ")", x.pvMove(i), line[i]);
+    private static void entries() {
+        for (Solutions known : Solutions.OF_LENGTH) {
+            lineIs(known.solved(), known.line());
         }
-        int[] outside = {
-            -1, -2, -64, line.length, line.length + 1, 12, 13, 64, 256, 65536, Integer.MIN_VALUE, Integer.MAX_VALUE
-        };
-        for (int i : outside) {
-            if (i < 0 || i >= line.length) {
-                checks.due(board + ", pvMove(" + i + ")", x.pvMove(i), -1);
-            }
-        }
-        replay(board, side);
-    }
-
-    /** The calls of the promise's own paragraph on replaying, in its order. */
-    private static void replay(String board, int side) {
-        ReversiSolver x = Boards.laid(board, side);
-        x.solve();
-        int value = x.solvedValue();
-        int length = x.pvLength();
-        List<Integer> line = new ArrayList<>();
-        for (int i = 0; i < length; i++) {
-            line.add(x.pvMove(i));
-        }
-        checks.due(board + ", length of " + line, length >= 0 && length <= 12, true);
-        for (int entry : line) {
-            checks.due(board + ", isGameOver() before " + entry + " of " + line, x.isGameOver(), false);
-            int answer = entry == 64 ? x.pass() : x.play(entry);
-            checks.due(board + ", " + entry + " of " + line + " is taken", answer >= 0, true);
-        }
-        checks.due(board + ", isGameOver() after " + line, x.isGameOver(), true);
-        checks.due(board + ", discs after " + line, x.countDiscs(side) - x.countDiscs(3 - side), value);
-    }
-
-    private static void changesNothing() {
-        ReversiSolver x = Boards.solvedTwoEmpty();
-        for (int i = -2; i < 14; i++) {
-            x.pvMove(i);
-            x.pvLength();
-        }
-        checks.due("state after pvMove", Boards.state(x), Boards.TWO_EMPTY + " side 1" + Boards.TWO_EMPTY_SOLUTION);
-    }
-
-    private static void randomBoards() {
+        lineIs(Boards.solved(Boards.TWO_EMPTY, 1), 0, 64, 63);
+        lineIs(Boards.solved(Boards.TWO_EMPTY, 2), 64, 0, 64, 63);
         Numbers numbers = new Numbers(16);
         int[] blackOf100 = {50, 3, 97, 20, 80, 8, 92};
         for (int round = 0; round < 700; round++) {
             int side = 1 + round % 2;
-            String board = numbers.board(numbers.below(7), blackOf100[round % 7]);
-            int[] line = Reference.of(Boards.laid(board, side)).line(side).stream().mapToInt(i -> i).toArray();
-            lineIs(board, side, line);
+            ReversiSolver x = Boards.solved(numbers.board(numbers.below(7), blackOf100[round % 7]), side);
+            lineIs(x, Reference.of(x).line(side).stream().mapToInt(i -> i).toArray());
+        }
+    }
+
+    private static void lineIs(ReversiSolver x, int... line) {
+        checks.due(Boards.board(x) + ", pvLength()", x.pvLength(), line.length);
+        for (int i = 0; i < line.length; i++) {
+            checks.due(Boards.board(x) + ", pvMove(" + i + ")", x.pvMove(i), line[i]);
+        }
+    }
+
+    private static void noMove() {
+        for (ReversiSolver x : Boards.holdingNone()) {
+            for (int i : Edges.outside(0, -1)) {
+                checks.due(Boards.board(x) + ", pvMove(" + i + ")", x.pvMove(i), -1);
+            }
+        }
+    }
+
+    private static void outsideTheLine() {
+        for (int n = 0; n <= 12; n++) {
+            ReversiSolver x = Solutions.OF_LENGTH[n].solved();
+            for (int i : Edges.outside(0, n - 1)) {
+                checks.due("a line of " + n + ", pvMove(" + i + ")", x.pvMove(i), -1);
+            }
+            if (n > 0) {
+                checks.due("a line of " + n + ", pvMove(0) is there", x.pvMove(0) >= 0, true);
+                checks.due("a line of " + n + ", pvMove(" + (n - 1) + ") is there", x.pvMove(n - 1) >= 0, true);
+            }
+        }
+    }
+
+    private static void changesNothing() {
+        for (ReversiSolver x : Boards.everyState()) {
+            Unchanged.by(checks, x, "pvLength()", ReversiSolver::pvLength, x.pvLength());
+            for (int i : new int[] {-1, 0, 1, 2, 5, 11, 12, 13, Integer.MIN_VALUE, Integer.MAX_VALUE}) {
+                Unchanged.by(checks, x, "pvMove(" + i + ")", y -> y.pvMove(i), x.pvMove(i));
+            }
+        }
+    }
+
+    /** As long as no later call has made the solution absent: getters and refused calls make no difference. */
+    private static void lengthWhileHeld() {
+        for (int n = 0; n <= 12; n++) {
+            ReversiSolver x = Solutions.OF_LENGTH[n].solved();
+            x.legalMask();
+            x.isGameOver();
+            x.pvMove(n);
+            x.play(64);
+            x.setSquare(0, -1);
+            x.setRow(7, 1, 1);
+            x.setSideToMove(3);
+            checks.due("a line of " + n + ", refused calls, pvLength()", x.pvLength(), n);
+        }
+    }
+
+    /** What one of the promise's facts on replaying looks at: a solved object, before its line is played. */
+    private interface Replay {
+        void of(ReversiSolver x, List<Integer> line);
+    }
+
+    private static void replayAll(Replay replay) {
+        for (Solutions known : Solutions.OF_LENGTH) {
+            replay(replay, known.board, known.side);
+        }
+        Numbers numbers = new Numbers(160);
+        int[] blackOf100 = {50, 3, 97, 20, 80, 8, 92};
+        for (int round = 0; round < 700; round++) {
+            replay(replay, numbers.board(numbers.below(7), blackOf100[round % 7]), 1 + round % 2);
+        }
+    }
+
+    private static void replay(Replay replay, String board, int side) {
+        ReversiSolver x = Boards.solved(board, side);
+        int length = x.pvLength();
+        checks.due(board + ", pvLength() is in 0..12", length >= 0 && length <= 12, true);
+        List<Integer> line = new ArrayList<>();
+        for (int i = 0; i < length; i++) {
+            line.add(x.pvMove(i));
+        }
+        replay.of(x, line);
+    }
+
+    private static int take(ReversiSolver x, int entry) {
+        return entry == 64 ? x.pass() : x.play(entry);
+    }
+
+    private static void entriesAreTaken(ReversiSolver x, List<Integer> line) {
+        for (int entry : line) {
+            String call = Boards.board(x) + ", " + entry + " of " + line + " is taken";
+            checks.due(call, take(x, entry) >= 0, true);
+        }
+    }
+
+    private static void overAfterTheLast(ReversiSolver x, List<Integer> line) {
+        for (int entry : line) {
+            checks.due(Boards.board(x) + ", isGameOver() before " + entry + " of " + line, x.isGameOver(), false);
+            take(x, entry);
+        }
+        checks.due(Boards.board(x) + ", isGameOver() after " + line, x.isGameOver(), true);
+    }
+
+    private static void endsAtTheValue(ReversiSolver x, List<Integer> line) {
+        int side = x.sideToMove();
+        int value = x.solvedValue();
+        for (int entry : line) {
+            take(x, entry);
+        }
+        checks.due(Boards.board(x) + ", discs after " + line, x.countDiscs(side) - x.countDiscs(3 - side), value);
+    }
+
+    /** And the other way round: a board that is not over has a line. */
+    private static void emptyLines() {
+        for (ReversiSolver x : Boards.holding()) {
+            checks.due(Boards.board(x) + ", pvLength() is 0", x.pvLength() == 0, x.isGameOver());
+        }
+        for (String board : new String[] {Boards.OVER, Boards.FULL, Boards.ALL_BLACK, Boards.ALL_WHITE, Boards.HALVES}) {
+            for (int side = 1; side <= 2; side++) {
+                ReversiSolver x = Boards.solved(board, side);
+                checks.due(board + ", pvLength()", x.pvLength(), 0);
+                checks.due(board + ", pvMove(0)", x.pvMove(0), -1);
+                checks.due(board + ", isGameOver()", x.isGameOver(), true);
+            }
         }
     }
 }
