@@ -1,4 +1,3 @@
-import java.util.ArrayList;
 import java.util.List;
 
 /** Lays out boards written as text, and reads a whole state back as text. */
@@ -48,33 +47,16 @@ final class Boards {
         return solved(TWO_EMPTY, BLACK);
     }
 
-    /** Objects that hold a solution: of a move, of a pass, of an over board, of a full one, and a long one. */
     static List<ReversiSolver> holding() {
-        List<ReversiSolver> all = new ArrayList<>();
-        for (String board : new String[] {TWO_EMPTY, OVER, FULL, HALVES, SIX_EMPTY, TWELVE_ENTRIES, otherColours(TWO_EMPTY)}) {
-            all.add(solved(board, BLACK));
-            all.add(solved(board, WHITE));
-        }
-        return all;
+        return Known.holding().stream().map(known -> known.x).toList();
     }
 
-    /** Objects that hold none: at the start, without discs, full, and with a solution that was dropped. */
     static List<ReversiSolver> holdingNone() {
-        List<ReversiSolver> all = new ArrayList<>();
-        for (String board : new String[] {START, CLEAR, FULL, TWO_EMPTY}) {
-            all.add(laid(board, BLACK));
-            all.add(laid(board, WHITE));
-        }
-        ReversiSolver dropped = solved(TWELVE_ENTRIES, BLACK);
-        dropped.pass();
-        all.add(dropped);
-        return all;
+        return Known.holdingNone().stream().map(known -> known.x).toList();
     }
 
     static List<ReversiSolver> everyState() {
-        List<ReversiSolver> all = holding();
-        all.addAll(holdingNone());
-        return all;
+        return Known.all().stream().map(known -> known.x).toList();
     }
 
     static void lay(ReversiSolver x, String board, int side) {

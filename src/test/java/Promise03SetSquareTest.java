@@ -53,15 +53,15 @@ public final class Promise03SetSquareTest {
     }
 
     private static void refusedChangesNothing() {
-        List<ReversiSolver> all = Boards.everyState();
+        List<Known> all = Known.all();
         for (int sq : Edges.outside(0, 63)) {
             int who = sq & 3;
-            Unchanged.by(checks, all, "setSquare(" + sq + ", " + who + ")", x -> x.setSquare(sq, who), -1);
+            Known.unchangedBy(checks, all, "setSquare(" + sq + ", " + who + ")", x -> x.setSquare(sq, who), -1);
         }
         for (int who : new int[] {-1, 3, -2, 4, 257, 258, Integer.MIN_VALUE, Integer.MAX_VALUE}) {
             for (int sq = 0; sq < 64; sq++) {
                 int square = sq;
-                Unchanged.by(checks, all, "setSquare(" + sq + ", " + who + ")", x -> x.setSquare(square, who), -1);
+                Known.unchangedBy(checks, all, "setSquare(" + sq + ", " + who + ")", x -> x.setSquare(square, who), -1);
             }
         }
     }

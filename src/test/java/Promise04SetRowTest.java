@@ -69,7 +69,7 @@ public final class Promise04SetRowTest {
     }
 
     private static void refusedChangesNothing() {
-        List<ReversiSolver> all = Boards.everyState();
+        List<Known> all = Known.all();
         for (int row : Edges.outside(0, 7)) {
             refused(all, row, 90, 37);
         }
@@ -89,9 +89,9 @@ public final class Promise04SetRowTest {
         }
     }
 
-    private static void refused(List<ReversiSolver> all, int row, int blackBits, int whiteBits) {
+    private static void refused(List<Known> all, int row, int blackBits, int whiteBits) {
         String call = "setRow(" + row + ", " + blackBits + ", " + whiteBits + ")";
-        Unchanged.by(checks, all, call, x -> x.setRow(row, blackBits, whiteBits), -1);
+        Known.unchangedBy(checks, all, call, x -> x.setRow(row, blackBits, whiteBits), -1);
     }
 
     /** The wanted row is told square by square, as the promise tells it. */

@@ -25,9 +25,9 @@ public final class Promise05SetSideToMoveTest {
     }
 
     private static void refusedChangesNothing() {
-        List<ReversiSolver> all = Boards.everyState();
+        List<Known> all = Known.all();
         for (int who : Edges.outside(1, 2)) {
-            Unchanged.by(checks, all, "setSideToMove(" + who + ")", x -> x.setSideToMove(who), -1);
+            Known.unchangedBy(checks, all, "setSideToMove(" + who + ")", x -> x.setSideToMove(who), -1);
         }
     }
 

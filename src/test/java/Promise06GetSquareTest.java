@@ -43,15 +43,16 @@ public final class Promise06GetSquareTest {
     }
 
     private static void changesNothing() {
-        List<ReversiSolver> all = Boards.everyState();
-        for (ReversiSolver x : all) {
+        List<Known> all = Known.all();
+        for (Known known : all) {
             for (int sq = 0; sq < 64; sq++) {
                 int square = sq;
-                Unchanged.by(checks, x, "getSquare(" + sq + ")", y -> y.getSquare(square), x.getSquare(sq));
+                int want = known.board.cells[sq / 8][sq % 8];
+                known.unchangedBy(checks, "getSquare(" + sq + ")", x -> x.getSquare(square), want);
             }
         }
         for (int sq : new int[] {-1, 64, Integer.MIN_VALUE, Integer.MAX_VALUE}) {
-            Unchanged.by(checks, all, "getSquare(" + sq + ")", x -> x.getSquare(sq), -1);
+            Known.unchangedBy(checks, all, "getSquare(" + sq + ")", x -> x.getSquare(sq), -1);
         }
     }
 }

@@ -52,8 +52,8 @@ public final class Promise07SideToMoveTest {
     }
 
     private static void changesNothing() {
-        for (ReversiSolver x : Boards.everyState()) {
-            Unchanged.by(checks, x, "sideToMove()", ReversiSolver::sideToMove, x.sideToMove());
+        for (Known known : Known.all()) {
+            known.unchangedBy(checks, "sideToMove()", ReversiSolver::sideToMove, known.side);
         }
     }
 }

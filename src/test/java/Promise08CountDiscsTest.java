@@ -61,13 +61,13 @@ public final class Promise08CountDiscsTest {
     }
 
     private static void changesNothing() {
-        List<ReversiSolver> all = Boards.everyState();
-        for (ReversiSolver x : all) {
-            Unchanged.by(checks, x, "countDiscs(1)", y -> y.countDiscs(1), x.countDiscs(1));
-            Unchanged.by(checks, x, "countDiscs(2)", y -> y.countDiscs(2), x.countDiscs(2));
+        List<Known> all = Known.all();
+        for (Known known : all) {
+            known.unchangedBy(checks, "countDiscs(1)", x -> x.countDiscs(1), known.board.count(1));
+            known.unchangedBy(checks, "countDiscs(2)", x -> x.countDiscs(2), known.board.count(2));
         }
         for (int who : new int[] {0, -1, 3, Integer.MIN_VALUE, Integer.MAX_VALUE}) {
-            Unchanged.by(checks, all, "countDiscs(" + who + ")", x -> x.countDiscs(who), -1);
+            Known.unchangedBy(checks, all, "countDiscs(" + who + ")", x -> x.countDiscs(who), -1);
         }
     }
 }

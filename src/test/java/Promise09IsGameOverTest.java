@@ -75,9 +75,9 @@ public final class Promise09IsGameOverTest {
     }
 
     private static void changesNothing() {
-        for (ReversiSolver x : Boards.everyState()) {
-            long want = x.isGameOver() ? 1 : 0;
-            Unchanged.by(checks, x, "isGameOver()", y -> y.isGameOver() ? 1 : 0, want);
+        for (Known known : Known.all()) {
+            long want = known.board.over() ? 1 : 0;
+            known.unchangedBy(checks, "isGameOver()", x -> x.isGameOver() ? 1 : 0, want);
         }
     }
 }

@@ -45,10 +45,18 @@ public final class Promise10IsLegalTest {
         legalAre(Boards.laid("BW...... ........ ........ ........ ........ ........ ........ ........", 2));
     }
 
+    /** On the last three boards a square just off the board would outflank a line, if it were one. */
     private static void offTheBoard() {
-        for (ReversiSolver x : Boards.everyState()) {
+        String[] boards = {
+            Boards.START, Boards.CLEAR, Boards.TWO_EMPTY, Boards.OVER, Boards.FULL,
+            ".WWWWWW. WBBBBBBW WB....BW WB....BW WB....BW WB....BW WBBBBBBW .WWWWWW.",
+            "........ ........ ........ ........ ........ ........ BBBBBBBB WWWWWWWW",
+            "WWWWWWWW BBBBBBBB ........ ........ ........ ........ ........ ........"
+        };
+        for (String board : boards) {
             for (int sq : Edges.outside(0, 63)) {
-                checks.due(Boards.board(x) + ", isLegal(" + sq + ")", x.isLegal(sq), false);
+                checks.due(board + ", isLegal(" + sq + ")", Boards.laid(board, 1).isLegal(sq), false);
+                checks.due(board + ", isLegal(" + sq + ")", Boards.laid(board, 2).isLegal(sq), false);
             }
         }
     }
@@ -65,11 +73,11 @@ public final class Promise10IsLegalTest {
     }
 
     private static void changesNothing() {
-        for (ReversiSolver x : Boards.everyState()) {
+        for (Known known : Known.all()) {
             for (int sq = -2; sq < 66; sq++) {
                 int square = sq;
-                long want = x.isLegal(sq) ? 1 : 0;
-                Unchanged.by(checks, x, "isLegal(" + sq + ")", y -> y.isLegal(square) ? 1 : 0, want);
+                long want = known.board.moves(known.side).contains(sq) ? 1 : 0;
+                known.unchangedBy(checks, "isLegal(" + sq + ")", x -> x.isLegal(square) ? 1 : 0, want);
             }
         }
     }

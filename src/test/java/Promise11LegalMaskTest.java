@@ -70,8 +70,8 @@ public final class Promise11LegalMaskTest {
     }
 
     private static void changesNothing() {
-        for (ReversiSolver x : Boards.everyState()) {
-            Unchanged.by(checks, x, "legalMask()", ReversiSolver::legalMask, x.legalMask());
+        for (Known known : Known.all()) {
+            known.unchangedBy(checks, "legalMask()", ReversiSolver::legalMask, known.board.mask(known.side));
         }
     }
 }

@@ -53,7 +53,8 @@ public final class Promise12PlayTest {
 
     private static void illegalWhenOver() {
         String apart = "B....... ........ ........ ........ ........ ........ ........ .......W";
-        for (String board : new String[] {Boards.CLEAR, Boards.OVER, Boards.FULL, Boards.ALL_BLACK, Boards.ALL_WHITE, apart}) {
+        String[] boards = {Boards.CLEAR, Boards.OVER, Boards.FULL, Boards.ALL_BLACK, Boards.ALL_WHITE, apart};
+        for (String board : boards) {
             illegalEverywhere(board, 1);
             illegalEverywhere(board, 2);
         }
@@ -75,15 +76,15 @@ public final class Promise12PlayTest {
     }
 
     private static void refusedChangesNothing() {
-        List<ReversiSolver> all = Boards.everyState();
+        List<Known> all = Known.all();
         for (int sq : Edges.outside(0, 63)) {
-            Unchanged.by(checks, all, "play(" + sq + ")", x -> x.play(sq), -1);
+            Known.unchangedBy(checks, all, "play(" + sq + ")", x -> x.play(sq), -1);
         }
-        for (ReversiSolver x : all) {
+        for (Known known : all) {
             for (int sq = 0; sq < 64; sq++) {
                 int square = sq;
-                if (Reference.of(x).flips(x.sideToMove(), sq).isEmpty()) {
-                    Unchanged.by(checks, x, "play(" + sq + ")", y -> y.play(square), -3);
+                if (known.board.flips(known.side, sq).isEmpty()) {
+                    known.unchangedBy(checks, "play(" + sq + ")", x -> x.play(square), -3);
                 }
             }
         }

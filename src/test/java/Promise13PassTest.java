@@ -23,7 +23,8 @@ public final class Promise13PassTest {
 
     private static void over() {
         String apart = "B....... ........ ........ ........ ........ ........ ........ .......W";
-        for (String board : new String[] {Boards.CLEAR, Boards.OVER, Boards.FULL, Boards.ALL_BLACK, Boards.ALL_WHITE, apart}) {
+        String[] boards = {Boards.CLEAR, Boards.OVER, Boards.FULL, Boards.ALL_BLACK, Boards.ALL_WHITE, apart};
+        for (String board : boards) {
             answers(board, 1, -2);
             answers(board, 2, -2);
         }
@@ -42,7 +43,7 @@ public final class Promise13PassTest {
         }
     }
 
-    /** An over board has no move either, so a full one tells ERR_OVER from both other answers. */
+    /** The three answers one after the other: over comes first, though an over board has no move either. */
     private static void overComesFirst() {
         ReversiSolver x = Boards.laid(Boards.TWO_EMPTY, 1);
         checks.due("a move is there, pass()", x.pass(), -3);
@@ -54,12 +55,11 @@ public final class Promise13PassTest {
     }
 
     private static void refusedChangesNothing() {
-        for (ReversiSolver x : Boards.everyState()) {
-            Reference r = Reference.of(x);
-            if (r.over()) {
-                Unchanged.by(checks, x, "pass()", ReversiSolver::pass, -2);
-            } else if (!r.moves(x.sideToMove()).isEmpty()) {
-                Unchanged.by(checks, x, "pass()", ReversiSolver::pass, -3);
+        for (Known known : Known.all()) {
+            if (known.board.over()) {
+                known.unchangedBy(checks, "pass()", ReversiSolver::pass, -2);
+            } else if (!known.board.moves(known.side).isEmpty()) {
+                known.unchangedBy(checks, "pass()", ReversiSolver::pass, -3);
             }
         }
     }

@@ -1,3 +1,5 @@
+import java.lang.reflect.Field;
+
 /** Promise 14: solve holds the exact value and the canonical line, or refuses more than six empty squares. */
 public final class Promise14SolveTest {
     private static final Checks checks = new Checks();
@@ -7,6 +9,7 @@ public final class Promise14SolveTest {
             Promise14SolveTest::tooMany);
         checks.holds("and changes nothing", Promise14SolveTest::refusedChangesNothing);
         checks.holds("A solution held from before stays held, unchanged.", Promise14SolveTest::heldFromBefore);
+        checks.holds("a refused solve brings no dropped solution back", Promise14SolveTest::noneComesBack);
         checks.holds("This works for every board with at most SOLVE_LIMIT empty squares", Promise14SolveTest::notTooMany);
         checks.holds("it is the number of empty squares that counts, wherever they are", Promise14SolveTest::limitAnywhere);
         checks.holds("The held solution becomes present, with value V(P) and list the PV of P",
@@ -63,22 +66,42 @@ public final class Promise14SolveTest {
     private static void refusedChangesNothing() {
         for (int empties = 7; empties <= 64; empties++) {
             for (String board : withEmpties(empties)) {
-                Unchanged.by(checks, Boards.laid(board, 1), "solve()", ReversiSolver::solve, -4);
-                Unchanged.by(checks, Boards.laid(board, 2), "solve()", ReversiSolver::solve, -4);
+                Known.laid(board, 1).unchangedBy(checks, "solve()", ReversiSolver::solve, -4);
+                Known.laid(board, 2).unchangedBy(checks, "solve()", ReversiSolver::solve, -4);
             }
         }
-        Unchanged.by(checks, new ReversiSolver(), "solve()", ReversiSolver::solve, -4);
+        Known.laid(Boards.START, 1).unchangedBy(checks, "solve()", ReversiSolver::solve, -4);
     }
 
     /**
      * Every call that empties a square makes the solution absent, so that no run of calls leads to a refused
-     * solve with a solution held. What is left to see: the refused call brings no old solution back.
+     * solve with a solution held. The discs are therefore taken off behind the object's back.
      */
     private static void heldFromBefore() {
+        for (Known known : Known.holding()) {
+            takeOffAllDiscs(known.x);
+            String solution = known.board.solution(known.side);
+            checks.due(known.state + ", no discs left, solve()", known.x.solve(), -4);
+            checks.due(known.state + ", no discs left, refused solve(), solution", Boards.solution(known.x), solution);
+        }
+    }
+
+    private static void takeOffAllDiscs(ReversiSolver x) {
+        try {
+            for (String name : new String[] {"black", "white"}) {
+                Field discs = ReversiSolver.class.getDeclaredField(name);
+                discs.setAccessible(true);
+                discs.setLong(x, 0L);
+            }
+        } catch (ReflectiveOperationException changed) {
+            throw new IllegalStateException("the class keeps its discs elsewhere now", changed);
+        }
+    }
+
+    private static void noneComesBack() {
         ReversiSolver x = Boards.solved(Boards.TWELVE_ENTRIES, 1);
-        checks.due("six empty, solution", Boards.solution(x), Boards.TWELVE_ENTRIES_SOLUTION);
         x.setSquare(0, 0);
-        Unchanged.by(checks, x, "solve() with a seventh empty square", ReversiSolver::solve, -4);
+        checks.due("seven empty, solve()", x.solve(), -4);
         checks.due("seven empty, refused solve(), solution", Boards.solution(x), Boards.NOTHING_HELD);
         x.setSquare(0, 1);
         checks.due("six empty again, not solved, solution", Boards.solution(x), Boards.NOTHING_HELD);

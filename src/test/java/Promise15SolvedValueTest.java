@@ -97,8 +97,8 @@ public final class Promise15SolvedValueTest {
     }
 
     private static void changesNothing() {
-        for (ReversiSolver x : Boards.everyState()) {
-            Unchanged.by(checks, x, "solvedValue()", ReversiSolver::solvedValue, x.solvedValue());
+        for (Known known : Known.all()) {
+            known.unchangedBy(checks, "solvedValue()", ReversiSolver::solvedValue, known.value());
         }
     }
 }

@@ -84,10 +84,12 @@ public final class Promise16PvTest {
     }
 
     private static void changesNothing() {
-        for (ReversiSolver x : Boards.everyState()) {
-            Unchanged.by(checks, x, "pvLength()", ReversiSolver::pvLength, x.pvLength());
+        for (Known known : Known.all()) {
+            List<Integer> line = known.line();
+            known.unchangedBy(checks, "pvLength()", ReversiSolver::pvLength, known.held ? line.size() : -1);
             for (int i : new int[] {-1, 0, 1, 2, 5, 11, 12, 13, Integer.MIN_VALUE, Integer.MAX_VALUE}) {
-                Unchanged.by(checks, x, "pvMove(" + i + ")", y -> y.pvMove(i), x.pvMove(i));
+                int want = i >= 0 && i < line.size() ? line.get(i) : -1;
+                known.unchangedBy(checks, "pvMove(" + i + ")", x -> x.pvMove(i), want);
             }
         }
     }

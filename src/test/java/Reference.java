@@ -13,6 +13,15 @@ final class Reference {
         return r;
     }
 
+    /** From a text in the form of Boards.board. */
+    static Reference of(String board) {
+        Reference r = new Reference();
+        for (int sq = 0; sq < 64; sq++) {
+            r.cells[sq / 8][sq % 8] = ".BW".indexOf(Boards.contentOf(board, sq));
+        }
+        return r;
+    }
+
     static int opponent(int side) {
         return 3 - side;
     }

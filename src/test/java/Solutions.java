@@ -1,3 +1,5 @@
+import java.util.Arrays;
+
 /** Positions with their solutions, each in the form of Boards.solution; entry n has a line of n entries. */
 final class Solutions {
     static final Solutions[] OF_LENGTH = {
@@ -42,6 +44,6 @@ final class Solutions {
         if (entries.isEmpty()) {
             return new int[0];
         }
-        return java.util.Arrays.stream(entries.split(" ")).mapToInt(Integer::parseInt).toArray();
+        return Arrays.stream(entries.split(" ")).mapToInt(Integer::parseInt).toArray();
     }
 }

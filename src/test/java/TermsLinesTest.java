@@ -45,7 +45,7 @@ public final class TermsLinesTest {
         checks.due(call + ", play(" + sq + ") is taken", x.play(sq) > 0, want);
     }
 
-    /** The board from, seen by either side as its own. */
+    /** For Black on the board as it is, and for White on the same with the colours swapped. */
     private static void legalIs(boolean want, String board, int sq) {
         movesAre(board, 1, sq, want);
         movesAre(Boards.otherColours(board), 2, sq, want);

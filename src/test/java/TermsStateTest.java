@@ -136,34 +136,34 @@ public final class TermsStateTest {
     }
 
     private static void refusedChangesNothing() {
-        List<ReversiSolver> all = Boards.everyState();
+        List<Known> all = Known.all();
         for (int wrong : new int[] {-1, Integer.MIN_VALUE, 64, 300, Integer.MAX_VALUE}) {
-            Unchanged.by(checks, all, "setSquare(" + wrong + ", 1)", x -> x.setSquare(wrong, 1), -1);
-            Unchanged.by(checks, all, "setSquare(0, " + wrong + ")", x -> x.setSquare(0, wrong), -1);
-            Unchanged.by(checks, all, "setRow(" + wrong + ", 1, 2)", x -> x.setRow(wrong, 1, 2), -1);
-            Unchanged.by(checks, all, "setSideToMove(" + wrong + ")", x -> x.setSideToMove(wrong), -1);
-            Unchanged.by(checks, all, "play(" + wrong + ")", x -> x.play(wrong), -1);
+            Known.unchangedBy(checks, all, "setSquare(" + wrong + ", 1)", x -> x.setSquare(wrong, 1), -1);
+            Known.unchangedBy(checks, all, "setSquare(0, " + wrong + ")", x -> x.setSquare(0, wrong), -1);
+            Known.unchangedBy(checks, all, "setRow(" + wrong + ", 1, 2)", x -> x.setRow(wrong, 1, 2), -1);
+            Known.unchangedBy(checks, all, "setSideToMove(" + wrong + ")", x -> x.setSideToMove(wrong), -1);
+            Known.unchangedBy(checks, all, "play(" + wrong + ")", x -> x.play(wrong), -1);
         }
-        Unchanged.by(checks, all, "setRow(0, 256, 0)", x -> x.setRow(0, 256, 0), -1);
-        Unchanged.by(checks, all, "setRow(0, 0, -1)", x -> x.setRow(0, 0, -1), -1);
-        Unchanged.by(checks, all, "setRow(0, 3, 6)", x -> x.setRow(0, 3, 6), -1);
-        Unchanged.by(checks, all, "setSideToMove(0)", x -> x.setSideToMove(0), -1);
-        Unchanged.by(checks, all, "play(9)", x -> x.play(9), -3);
-        for (ReversiSolver x : all) {
-            if (x.isGameOver()) {
-                Unchanged.by(checks, x, "pass()", ReversiSolver::pass, -2);
-            } else if (x.legalMask() != 0) {
-                Unchanged.by(checks, x, "pass()", ReversiSolver::pass, -3);
+        Known.unchangedBy(checks, all, "setRow(0, 256, 0)", x -> x.setRow(0, 256, 0), -1);
+        Known.unchangedBy(checks, all, "setRow(0, 0, -1)", x -> x.setRow(0, 0, -1), -1);
+        Known.unchangedBy(checks, all, "setRow(0, 3, 6)", x -> x.setRow(0, 3, 6), -1);
+        Known.unchangedBy(checks, all, "setSideToMove(0)", x -> x.setSideToMove(0), -1);
+        Known.unchangedBy(checks, all, "play(9)", x -> x.play(9), -3);
+        for (Known known : all) {
+            if (known.board.over()) {
+                known.unchangedBy(checks, "pass()", ReversiSolver::pass, -2);
+            } else if (!known.board.moves(known.side).isEmpty()) {
+                known.unchangedBy(checks, "pass()", ReversiSolver::pass, -3);
             }
-            if (x.countDiscs(1) + x.countDiscs(2) < 58) {
-                Unchanged.by(checks, x, "solve()", ReversiSolver::solve, -4);
+            if (known.board.count(0) > 6) {
+                known.unchangedBy(checks, "solve()", ReversiSolver::solve, -4);
             }
         }
     }
 
     private static void gettersChangeNothing() {
-        for (ReversiSolver x : Boards.everyState()) {
-            String before = Boards.state(x);
+        for (Known known : Known.all()) {
+            ReversiSolver x = known.x;
             for (int argument = -2; argument < 70; argument++) {
                 x.getSquare(argument);
                 x.countDiscs(argument);
@@ -175,18 +175,16 @@ public final class TermsStateTest {
             x.legalMask();
             x.solvedValue();
             x.pvLength();
-            checks.due(before + ", all getters, state", Boards.state(x), before);
+            checks.due(known.state + ", all getters, state", Boards.state(x), known.state);
         }
     }
 
     private static void anyTime() {
-        for (ReversiSolver x : Boards.everyState()) {
-            Reference r = Reference.of(x);
-            String board = Boards.state(x);
-            checks.due(board + ", legalMask()", x.legalMask(), r.mask(x.sideToMove()));
-            checks.due(board + ", countDiscs(1)", x.countDiscs(1), r.count(1));
-            checks.due(board + ", countDiscs(2)", x.countDiscs(2), r.count(2));
-            checks.due(board + ", isGameOver()", x.isGameOver(), r.over());
+        for (Known known : Known.all()) {
+            checks.due(known.state + ", legalMask()", known.x.legalMask(), known.board.mask(known.side));
+            checks.due(known.state + ", countDiscs(1)", known.x.countDiscs(1), known.board.count(1));
+            checks.due(known.state + ", countDiscs(2)", known.x.countDiscs(2), known.board.count(2));
+            checks.due(known.state + ", isGameOver()", known.x.isGameOver(), known.board.over());
         }
     }
 }

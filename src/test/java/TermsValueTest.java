@@ -170,8 +170,10 @@ public final class TermsValueTest {
             ReversiSolver x = known.solved();
             int[] line = known.line();
             for (int taken = 0; taken < line.length; taken++) {
+                for (int i = taken; i < line.length; i++) {
+                    checks.due(known.board + ", after " + taken + ", entry " + i, x.pvMove(i - taken), line[i]);
+                }
                 checks.due(known.board + ", after " + taken + ", pvLength()", x.pvLength(), line.length - taken);
-                checks.due(known.board + ", after " + taken + ", pvMove(0)", x.pvMove(0), line[taken]);
                 if (line[taken] == 64) {
                     x.pass();
                 } else {
