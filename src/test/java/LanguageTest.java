@@ -1,7 +1,11 @@
 import com.sun.source.tree.ArrayAccessTree;
 import com.sun.source.tree.AssertTree;
+import com.sun.source.tree.BlockTree;
 import com.sun.source.tree.CompilationUnitTree;
+import com.sun.source.tree.DoWhileLoopTree;
+import com.sun.source.tree.EnhancedForLoopTree;
 import com.sun.source.tree.ExpressionTree;
+import com.sun.source.tree.ForLoopTree;
 import com.sun.source.tree.IdentifierTree;
 import com.sun.source.tree.InstanceOfTree;
 import com.sun.source.tree.LambdaExpressionTree;
@@ -16,6 +20,9 @@ import com.sun.source.tree.SynchronizedTree;
 import com.sun.source.tree.ThrowTree;
 import com.sun.source.tree.Tree;
 import com.sun.source.tree.TryTree;
+import com.sun.source.tree.TypeCastTree;
+import com.sun.source.tree.VariableTree;
+import com.sun.source.tree.WhileLoopTree;
 import com.sun.source.util.JavacTask;
 import com.sun.source.util.TreeScanner;
 import com.sun.source.util.Trees;
@@ -88,6 +95,8 @@ public final class LanguageTest {
                 beside++;
                 checks.due("type of " + f.getName(), TYPES.contains(type), true);
                 checks.due(f.getName() + " is private", Modifier.isPrivate(f.getModifiers()), true);
+                boolean kept = !f.getType().isArray() || Modifier.isFinal(f.getModifiers());
+                checks.due("array " + f.getName() + " is never another", kept, true);
             }
         }
         checks.due("at most 40 fields, here " + beside, beside <= 40, true);
@@ -129,6 +138,7 @@ public final class LanguageTest {
         private static final int TOO_DEEP = 1000;
 
         final Map<String, Set<String>> calls = new HashMap<>();
+        private final Set<String> constants = new HashSet<>();
         private final CompilationUnitTree unit;
         private final Trees trees;
         private String method = "";
@@ -183,7 +193,62 @@ public final class LanguageTest {
             checks.due(place(tree) + "array made in a field's initialiser", method, "");
             checks.due(place(tree) + "dimensions", tree.getDimensions().size(), 1);
             checks.due(place(tree) + "array made with a length", tree.getInitializers() == null, true);
+            for (ExpressionTree length : tree.getDimensions()) {
+                boolean fixed = length instanceof LiteralTree || constants.contains(length.toString());
+                checks.due(place(tree) + "length is a literal or a constant", fixed, true);
+            }
             return super.visitNewArray(tree, none);
+        }
+
+        /** A constant's value is worked out from literals and other constants, which is what a call would break. */
+        @Override
+        public Void visitVariable(VariableTree tree, Void none) {
+            checks.due(place(tree) + "type", TYPES.contains(tree.getType().toString()), true);
+            if (tree.getModifiers().getFlags().contains(javax.lang.model.element.Modifier.STATIC)) {
+                constants.add(tree.getName().toString());
+                boolean constant = tree.getInitializer() != null && !tree.getInitializer().toString().contains("(");
+                checks.due(place(tree) + "value of a constant", constant, true);
+            }
+            return super.visitVariable(tree, none);
+        }
+
+        @Override
+        public Void visitTypeCast(TypeCastTree tree, Void none) {
+            checks.due(place(tree) + "cast to a number", TYPES.contains(tree.getType().toString()), true);
+            return super.visitTypeCast(tree, none);
+        }
+
+        @Override
+        public Void visitBlock(BlockTree tree, Void none) {
+            checks.due(place(tree) + "block outside a method", method.isEmpty(), false);
+            return super.visitBlock(tree, none);
+        }
+
+        /** The rules allow other loops with a counter as well; the class needs none. */
+        @Override
+        public Void visitForLoop(ForLoopTree tree, Void none) {
+            checks.due(place(tree) + "counter", tree.getInitializer().size(), 1);
+            checks.due(place(tree) + "step of the counter", tree.getUpdate().size(), 1);
+            String counter = ((VariableTree) tree.getInitializer().get(0)).getName().toString();
+            checks.due(place(tree) + "counter goes up", tree.getUpdate().get(0).toString(), counter + "++;");
+            String until = tree.getCondition() == null ? "" : tree.getCondition().toString();
+            checks.due(place(tree) + "counter against a bound", until.matches(counter + " <=? [A-Z0-9_]+( && .*)?"), true);
+            return super.visitForLoop(tree, none);
+        }
+
+        @Override
+        public Void visitWhileLoop(WhileLoopTree tree, Void none) {
+            return outside(tree, "loop without a counter");
+        }
+
+        @Override
+        public Void visitDoWhileLoop(DoWhileLoopTree tree, Void none) {
+            return outside(tree, "loop without a counter");
+        }
+
+        @Override
+        public Void visitEnhancedForLoop(EnhancedForLoopTree tree, Void none) {
+            return outside(tree, "loop without a counter");
         }
 
         @Override

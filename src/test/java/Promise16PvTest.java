@@ -14,6 +14,8 @@ public final class Promise16PvTest {
         checks.holds("It answers -1 if no solution is held", Promise16PvTest::noMove);
         checks.holds("or if i is outside 0..pvLength()-1 (negative i included)", Promise16PvTest::outsideTheLine);
         checks.holds("Neither method changes anything.", Promise16PvTest::changesNothing);
+        checks.holds("Suppose solve() has answered OK and no later call has made the held solution absent.",
+            () -> replayAll(Promise16PvTest::heldUntilTheReplay));
         checks.holds("Then n >= 0.", Promise16PvTest::lengthWhileHeld);
         checks.holds("every one of these calls answers a non-negative number (OK or a flip count)",
             () -> replayAll(Promise16PvTest::entriesAreTaken));
@@ -98,13 +100,7 @@ public final class Promise16PvTest {
     private static void lengthWhileHeld() {
         for (int n = 0; n <= 12; n++) {
             ReversiSolver x = Solutions.OF_LENGTH[n].solved();
-            x.legalMask();
-            x.isGameOver();
-            x.pvMove(n);
-            x.play(64);
-            x.setSquare(0, -1);
-            x.setRow(7, 1, 1);
-            x.setSideToMove(3);
+            callsThatKeepIt(x);
             checks.due("a line of " + n + ", refused calls, pvLength()", x.pvLength(), n);
         }
     }
@@ -138,6 +134,37 @@ public final class Promise16PvTest {
 
     private static int take(ReversiSolver x, int entry) {
         return entry == 64 ? x.pass() : x.play(entry);
+    }
+
+    /** The whole replay on one object, some time after the solve: only getters and refused calls have come between. */
+    private static void heldUntilTheReplay(ReversiSolver x, List<Integer> line) {
+        String board = Boards.board(x);
+        int side = x.sideToMove();
+        callsThatKeepIt(x);
+        checks.due(board + ", pvLength() later", x.pvLength(), line.size());
+        for (int i = line.size() - 1; i >= 0; i--) {
+            checks.due(board + ", pvMove(" + i + ") later", x.pvMove(i), line.get(i));
+        }
+        int value = x.solvedValue();
+        for (int entry : line) {
+            checks.due(board + ", isGameOver() before " + entry + " of " + line, x.isGameOver(), false);
+            checks.due(board + ", " + entry + " of " + line + " is taken", take(x, entry) >= 0, true);
+        }
+        checks.due(board + ", isGameOver() after " + line, x.isGameOver(), true);
+        checks.due(board + ", discs after " + line, x.countDiscs(side) - x.countDiscs(3 - side), value);
+    }
+
+    private static void callsThatKeepIt(ReversiSolver x) {
+        x.legalMask();
+        x.isGameOver();
+        x.pvMove(x.pvLength());
+        x.play(64);
+        x.setSquare(0, -1);
+        x.setRow(7, 1, 1);
+        x.setSideToMove(3);
+        if (x.isGameOver() || x.legalMask() != 0) {
+            x.pass();
+        }
     }
 
     private static void entriesAreTaken(ReversiSolver x, List<Integer> line) {

@@ -1,3 +1,5 @@
+import java.util.Arrays;
+
 /** Terms, Lines and Legal move: walks that end at the edge, and the runs that a move flips. */
 public final class TermsLinesTest {
     private static final Checks checks = new Checks();
@@ -12,6 +14,7 @@ public final class TermsLinesTest {
         checks.holds("Square s is a legal move of m if and only if s is EMPTY", TermsLinesTest::occupied);
         checks.holds("one meets k >= 1 squares all holding o", TermsLinesTest::lengths);
         checks.holds("and directly after them a square (on the board) holding m", TermsLinesTest::notClosed);
+        checks.holds("Those k squares are the run of s in d.", TermsLinesTest::everyFilling);
         checks.holds("s becomes m", TermsLinesTest::squareItself);
         checks.holds("every square of every run of s, in all directions that have a run, becomes m",
             TermsLinesTest::everyRun);
@@ -207,6 +210,56 @@ public final class TermsLinesTest {
                     legalIs(false, Boards.with(board, step(sq, d, room(sq, d)), 'W'), sq);
                 }
             }
+        }
+    }
+
+    /**
+     * Every way to fill the squares from sq to the edge, in every direction: the run in a direction hangs on
+     * nothing else, so these are all the cases that there are of one run.
+     */
+    private static void everyFilling() {
+        for (int sq = 0; sq < 64; sq++) {
+            for (int[] d : DIRECTIONS) {
+                int[] ray = new int[room(sq, d)];
+                do {
+                    fillingIs(sq, d, ray, 1);
+                    fillingIs(sq, d, ray, 2);
+                } while (nextFilling(ray));
+            }
+        }
+    }
+
+    /** Counts on, square by square: empty, then the mover's, then the other side's; false after the last filling. */
+    private static boolean nextFilling(int[] ray) {
+        for (int n = 0; n < ray.length; n++) {
+            ray[n] = (ray[n] + 1) % 3;
+            if (ray[n] != 0) {
+                return true;
+            }
+        }
+        return false;
+    }
+
+    private static int content(int inRay, int side) {
+        return inRay == 0 ? 0 : inRay == 1 ? side : 3 - side;
+    }
+
+    private static void fillingIs(int sq, int[] d, int[] ray, int side) {
+        ReversiSolver x = new ReversiSolver();
+        x.reset(1);
+        x.setSideToMove(side);
+        int met = 0;
+        for (int n = 0; n < ray.length; n++) {
+            x.setSquare(step(sq, d, n + 1), content(ray[n], side));
+            met += n == met && ray[n] == 2 ? 1 : 0;
+        }
+        int run = met < ray.length && ray[met] == 1 ? met : 0;
+        String call = "for " + side + " from " + sq + " by " + d[0] + "," + d[1] + " " + Arrays.toString(ray);
+        checks.due(call + ", isLegal", x.isLegal(sq), run > 0);
+        checks.due(call + ", play", x.play(sq), run > 0 ? run : -3);
+        checks.due(call + ", getSquare", x.getSquare(sq), run > 0 ? side : 0);
+        for (int n = 0; n < ray.length; n++) {
+            checks.due(call + ", then " + n, x.getSquare(step(sq, d, n + 1)), n < run ? side : content(ray[n], side));
         }
     }
 

@@ -1,4 +1,4 @@
-/** Whole games from the opening to the end, every position of them compared with the reference. */
+/** Whole games from the opening to the end, every position and every solution of them compared with the reference. */
 public final class WholeGamesTest {
     private static final Checks checks = new Checks();
 
@@ -16,6 +16,7 @@ public final class WholeGamesTest {
         // Sixty moves and as many passes are the most that a game can have.
         for (int turn = 0; turn < 120 && !r.over(); turn++) {
             compare(x, r, side);
+            solved(x, r, side);
             int moves = r.moves(side).size();
             if (moves == 0) {
                 checks.due(Boards.state(x) + ", pass()", x.pass(), 0);
@@ -28,7 +29,16 @@ public final class WholeGamesTest {
             side = 3 - side;
         }
         compare(x, r, side);
+        solved(x, r, side);
         checks.due(Boards.state(x) + ", pass() at the end", x.pass(), -2);
+    }
+
+    /** At each turn, so that the next turn shows that a move or a pass drops what was held. */
+    private static void solved(ReversiSolver x, Reference r, int side) {
+        boolean few = r.count(0) <= 6;
+        String at = r.text() + " side " + side;
+        checks.due(at + ", solve()", x.solve(), few ? 0 : -4);
+        checks.due(at + ", solve(), state", Boards.state(x), at + (few ? r.solution(side) : Boards.NOTHING_HELD));
     }
 
     private static void compare(ReversiSolver x, Reference r, int side) {
